@@ -225,6 +225,9 @@ public final class QuestionTest {
         follows("0: 0*n 1: 0-n", false);
         // A list may run through the end of the other one, unless something is known to be there.
         follows("0: 0*1 1*2 1: 0*2", false);
+        follows("0: 0*1 1*2 0!2 1: 0*2", false);
+        follows("0: 0*1 1-2 0!2 1!2 1: 0*2", false);
+        follows("0: 0-1 1*2 0!2 1: 0*2", true);
         follows("0: 0*1 1*n 1: 0*n", true);
         follows("0: 0-1 1-2 1: 0*2", false);
         follows("0: 0-1 1-2 0!2 1!2 1: 0*2", true);
@@ -253,6 +256,17 @@ public final class QuestionTest {
         follows("0: 0*1 1*2 2*3 3*4 4*n 1: 0*3 3*n", true);
         follows("0: 0*1 1*2 2*3 3*4 4*n 1: 1*n 0*1", true);
         follows("0: 0*1 1*2 2*3 3*4 4*n 1: 1*n", false);
+        // A list with cells is no cell, also where no name is left that could be inside it.
+        follows("0: 0*n 0!n 1=0 2=0 3=0 4=0 1: 0-n", false);
+        follows("0: 0-n 1-n 2-n 3-n 4*n 4!n 1: 0-n 1-n 2-n 3-n 4-n", false);
+        follows("0: 0-n 1-n 2-n 3-n 4*n 4!n 1: 0-n 1-n 2-n 3-n 4*n", true);
+        // Just one name can be inside a list, or just be outside of it.
+        follows("0: 2*3 3*0 2!0 1=n 4=n 1: 2*0", false);
+        follows("0: 2*3 3*1 2!1 0=n 4=n 1: 2*1", false);
+        follows("0: 0*1 1*4 0!4 2=n 3=n 1: 0*4", false);
+        follows("0: 0*1 1*4 0!4 2=n 3=n 4=n 1: 0*4", true);
+        follows("0: 0-n 1-n 2-n 3*n 3!n 4!0 4!1 4!2 1: 0-n 1-n 2-n 3*4 4*n", false);
+        follows("0: 0-n 1-n 2-n 3*n 3!n 4!0 4!1 4!2 4=3 1: 0-n 1-n 2-n 3*4 4*n", true);
         // Each part needs a piece of its own.
         follows("0: 0-1 1: 0-1 0-1", false);
         follows("0: 0*n 1: 0*n 0*n", false);
@@ -280,6 +294,9 @@ public final class QuestionTest {
         contains("0: 0*1 1*2 2*n 1: 2*1", false);
         contains("0: 0*n 1: 0*1", false);
         contains("0: 0*n 0!n 1: 0-1", false);
+        contains("0: 0*n 0!n 1=0 2=0 3=0 4=0 1: 0-n", false);
+        contains("0: 0-n 0!n 1=0 2=0 3=0 4=0 1: 0*n", true);
+        contains("0: 0-n 1-n 2-n 3*n 3!n 4!0 4!1 4!2 1: 3*4", false);
         contains("0: 0*1 1*0 0!1 1: 1*0", true);
         contains("0: 0-0 1: 0*1", false);
         contains("0: 0-0 1: 0*0", true);
