@@ -18,6 +18,14 @@ final class Due {
         is(call, got ? 1 : 0, want ? 1 : 0);
     }
 
+    static void is(String call, String got, String want) {
+        asked++;
+        if (!got.equals(want)) {
+            wrong++;
+            System.out.println(call + " answered\n" + got + "\ndue is\n" + want);
+        }
+    }
+
     static void end() {
         System.out.println(asked + " answers looked at, " + wrong + " wrong");
         if (wrong != 0) {

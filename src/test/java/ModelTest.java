@@ -51,6 +51,10 @@ public final class ModelTest {
         for (int n = 0; n < 1200 * times; n++) {
             tryClaims(2 + n % 4, 1 + pick(3), 1 + pick(4));
         }
+        List<int[]> meanings = meanings();
+        for (int n = 0; n < 200 * times; n++) {
+            tryFullClaims(meanings.get(pick(meanings.size())), 1 + pick(3));
+        }
         System.out.println("no and yes: follows " + Arrays.toString(asked[0]) + ", contains "
             + Arrays.toString(asked[1]) + ", together " + Arrays.toString(asked[2]) + ", held "
             + Arrays.toString(asked[3]) + ", reaches " + Arrays.toString(asked[4]));
@@ -88,6 +92,40 @@ public final class ModelTest {
         say(x, 1, second);
         String told = first + " / " + second;
         List<Model> models = models(first, parts + 2);
+        tryOne(x, first, models, told);
+        tryBoth(x, models, first, second, told);
+    }
+
+    /** Claims with 8 conditions and 6 parts, the first one having a model with this meaning. */
+    private static void tryFullClaims(int[] meaning, int changes) {
+        List<Said> first = new ArrayList<>();
+        boolean[] started = new boolean[6];
+        while (first.size() < 6) {
+            int a = pick(6);
+            int b = pick(6);
+            boolean hasCells = meaning[a] != meaning[b];
+            if (!hasCells) {
+                first.add(new Said(LIST, a, b));
+            } else if (meaning[a] != NIL && !started[meaning[a]]) {
+                started[meaning[a]] = true;
+                first.add(new Said(pick(3) == 0 ? CELL : LIST, a, b));
+            }
+        }
+        while (first.size() < 6 + 8) {
+            int a = pick(6);
+            int b = pick(6);
+            first.add(new Said(meaning[a] == meaning[b] ? SAME : OTHER, a, b));
+        }
+        List<Said> second = new ArrayList<>(first);
+        for (int i = 0; i < changes; i++) {
+            change(second, 5);
+        }
+        ListHeaps x = new ListHeaps();
+        say(x, 0, first);
+        say(x, 1, second);
+        String told = first + " / " + second;
+        List<Model> models = models(first, 7);
+        Due.is("made to have a model " + told, models.isEmpty(), false);
         tryOne(x, first, models, told);
         tryBoth(x, models, first, second, told);
     }

@@ -15,40 +15,8 @@ public final class QuestionTest {
         Due.end();
     }
 
-    /**
-     * An object with both claims as told: after "0:" or "1:" comes a claim, "a=b" and "a!b" are
-     * conditions, "a-b" is a cell and "a*b" a list, with n for NIL.
-     */
-    private static ListHeaps with(String claims) {
-        ListHeaps x = new ListHeaps();
-        int s = 0;
-        for (String word : claims.trim().split(" +")) {
-            if (word.endsWith(":")) {
-                s = word.charAt(0) - '0';
-            } else if (!word.isEmpty()) {
-                add(x, s, word);
-            }
-        }
-        return x;
-    }
-
-    private static void add(ListHeaps x, int s, String word) {
-        int a = term(word.charAt(0));
-        int b = term(word.charAt(2));
-        switch (word.charAt(1)) {
-            case '=' -> x.same(s, a, b);
-            case '!' -> x.other(s, a, b);
-            case '-' -> x.cell(s, a, b);
-            default -> x.list(s, a, b);
-        }
-    }
-
-    private static int term(char c) {
-        return c == 'n' ? 5 : c - '0';
-    }
-
     private static void possible(String claim, boolean want) {
-        Due.is("possible: " + claim, with(claim).possible(0), want);
+        Due.is("possible: " + claim, Told.with(claim).possible(0), want);
     }
 
     private static void possible() {
@@ -81,7 +49,7 @@ public final class QuestionTest {
     }
 
     private static void divisions(String claim, int want) {
-        Due.is("divisions: " + claim, with(claim).divisions(0), want);
+        Due.is("divisions: " + claim, Told.with(claim).divisions(0), want);
     }
 
     private static void divisions() {
@@ -99,10 +67,10 @@ public final class QuestionTest {
 
     private static void alwaysAndNeverSame(String claim, int a, int b, boolean always, boolean never) {
         String asked = " " + a + " " + b + ": " + claim;
-        Due.is("alwaysSame" + asked, with(claim).alwaysSame(0, a, b), always);
-        Due.is("alwaysSame turned" + asked, with(claim).alwaysSame(0, b, a), always);
-        Due.is("neverSame" + asked, with(claim).neverSame(0, a, b), never);
-        Due.is("neverSame turned" + asked, with(claim).neverSame(0, b, a), never);
+        Due.is("alwaysSame" + asked, Told.with(claim).alwaysSame(0, a, b), always);
+        Due.is("alwaysSame turned" + asked, Told.with(claim).alwaysSame(0, b, a), always);
+        Due.is("neverSame" + asked, Told.with(claim).neverSame(0, a, b), never);
+        Due.is("neverSame turned" + asked, Told.with(claim).neverSame(0, b, a), never);
     }
 
     private static void alwaysAndNeverSame() {
@@ -129,7 +97,7 @@ public final class QuestionTest {
     }
 
     private static void held(String claim, int a, boolean want) {
-        Due.is("held " + a + ": " + claim, with(claim).held(0, a), want);
+        Due.is("held " + a + ": " + claim, Told.with(claim).held(0, a), want);
     }
 
     private static void held() {
@@ -151,7 +119,7 @@ public final class QuestionTest {
     }
 
     private static void reaches(String claim, int a, int b, boolean want) {
-        Due.is("reaches " + a + " " + b + ": " + claim, with(claim).reaches(0, a, b), want);
+        Due.is("reaches " + a + " " + b + ": " + claim, Told.with(claim).reaches(0, a, b), want);
     }
 
     private static void reaches() {
@@ -177,8 +145,8 @@ public final class QuestionTest {
     }
 
     private static void cells(String claim, int least, int most) {
-        Due.is("least: " + claim, with(claim).least(0), least);
-        Due.is("most: " + claim, with(claim).most(0), most);
+        Due.is("least: " + claim, Told.with(claim).least(0), least);
+        Due.is("most: " + claim, Told.with(claim).most(0), most);
     }
 
     private static void leastAndMost() {
@@ -201,9 +169,9 @@ public final class QuestionTest {
     }
 
     private static void follows(String claims, boolean want) {
-        Due.is("follows: " + claims, with(claims).follows(), want);
+        Due.is("follows: " + claims, Told.with(claims).follows(), want);
         if (want) {
-            Due.is("contains, as it follows: " + claims, with(claims).contains(), true);
+            Due.is("contains, as it follows: " + claims, Told.with(claims).contains(), true);
         }
     }
 
@@ -276,7 +244,7 @@ public final class QuestionTest {
     }
 
     private static void contains(String claims, boolean want) {
-        Due.is("contains: " + claims, with(claims).contains(), want);
+        Due.is("contains: " + claims, Told.with(claims).contains(), want);
     }
 
     private static void contains() {
@@ -309,7 +277,7 @@ public final class QuestionTest {
     }
 
     private static void together(String claims, boolean want) {
-        ListHeaps x = with(claims);
+        ListHeaps x = Told.with(claims);
         Due.is("together: " + claims, x.together(), want);
         x.swap();
         Due.is("together, swapped: " + claims, x.together(), want);
@@ -339,7 +307,7 @@ public final class QuestionTest {
     }
 
     private static void claimThatCannotBe() {
-        ListHeaps x = with("0: 0-1 0-2 1: 3!3");
+        ListHeaps x = Told.with("0: 0-1 0-2 1: 3!3");
         Due.is("no model: possible", x.possible(0), false);
         Due.is("no model: divisions", x.divisions(0), 0);
         Due.is("no model: held", x.held(0, 5), true);
@@ -354,7 +322,7 @@ public final class QuestionTest {
     }
 
     private static void questionsChangeNothing() {
-        ListHeaps x = with("0: 0*1 1*2 2-3 0!4 1: 0*2 2-3");
+        ListHeaps x = Told.with("0: 0*1 1*2 2-3 0!4 1: 0*2 2-3");
         for (int n = 0; n < 2; n++) {
             Due.is("again: follows", x.follows(), true);
             Due.is("again: contains", x.contains(), true);
