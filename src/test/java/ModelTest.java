@@ -1,66 +1,24 @@
 import java.util.ArrayList;
-import java.util.Arrays;
 import java.util.List;
 
 /**
- * Holds the answers of many claims against the document's own words: models are built place by
- * place, up to a number of cells, and a claim is tried on a heap by trying every way to divide it.
- *
- * With an argument n, n times as many claims are tried.
+ * Promises 9 to 19 on many claims, up to full ones, the second of two being made from the first by
+ * changes. With an argument n, n times as many claims are tried.
  */
 public final class ModelTest {
-    private static final int SAME = 0;
-    private static final int OTHER = 1;
-    private static final int CELL = 2;
-    private static final int LIST = 3;
-    private static final int NIL = 0;
-    private static final int PLACES = 16;
-    private static final int NO_CELL = -1;
-
-    private record Said(int kind, int a, int b) {
-        boolean isPart() {
-            return kind == CELL || kind == LIST;
-        }
-    }
-
-    /** What each of the six terms means (NIL is 0, places are 1 and above), and what each place holds. */
-    private record Model(int[] meaning, int[] heap) {
-        int cells() {
-            int cells = 0;
-            for (int value : heap) {
-                cells += value == NO_CELL ? 0 : 1;
-            }
-            return cells;
-        }
-
-        boolean reaches(int from, int to) {
-            int at = from;
-            for (int step = 0; step <= PLACES && at != to && heap[at] != NO_CELL; step++) {
-                at = heap[at];
-            }
-            return at == to;
-        }
-    }
-
     private static long seed = 20261115L;
-    private static final int[][] asked = new int[5][2];
 
     public static void main(String[] args) {
         int times = args.length == 0 ? 1 : Integer.parseInt(args[0]);
-        Due.is("meanings", meanings().size(), 203);
+        List<int[]> meanings = Models.meanings();
+        Due.is("meanings", meanings.size(), 203);
         for (int n = 0; n < 1200 * times; n++) {
             tryClaims(2 + n % 4, 1 + pick(3), 1 + pick(4));
         }
-        List<int[]> meanings = meanings();
         for (int n = 0; n < 200 * times; n++) {
             tryFullClaims(meanings.get(pick(meanings.size())), 1 + pick(3));
         }
-        System.out.println("no and yes: follows " + Arrays.toString(asked[0]) + ", contains "
-            + Arrays.toString(asked[1]) + ", together " + Arrays.toString(asked[2]) + ", held "
-            + Arrays.toString(asked[3]) + ", reaches " + Arrays.toString(asked[4]));
-        for (int[] answers : asked) {
-            Due.is("both answers come", answers[0] >= 100 && answers[1] >= 100, true);
-        }
+        Models.bothAnswersCame(100);
         Due.end();
     }
 
@@ -78,22 +36,20 @@ public final class ModelTest {
     private static void tryClaims(int names, int parts, int changes) {
         List<Said> first = new ArrayList<>();
         for (int i = 0; i < parts; i++) {
-            first.add(new Said(pick(3) == 0 ? CELL : LIST, pickTerm(names), pickTerm(names)));
+            first.add(new Said(pick(3) == 0 ? Said.CELL : Said.LIST, pickTerm(names), pickTerm(names)));
         }
         for (int i = pick(4); i > 0; i--) {
-            first.add(new Said(pick(3) == 0 ? SAME : OTHER, pickTerm(names), pickTerm(names)));
+            first.add(new Said(pick(3) == 0 ? Said.SAME : Said.OTHER, pickTerm(names), pickTerm(names)));
         }
         List<Said> second = new ArrayList<>(first);
         for (int i = 0; i < changes; i++) {
             change(second, names);
         }
-        ListHeaps x = new ListHeaps();
-        say(x, 0, first);
-        say(x, 1, second);
+        ListHeaps x = Models.with(first, second);
         String told = first + " / " + second;
-        List<Model> models = models(first, parts + 2);
-        tryOne(x, first, models, told);
-        tryBoth(x, models, first, second, told);
+        List<Models.Model> models = Models.models(first, parts + 2);
+        Models.tryOne(x, first, models, told);
+        Models.tryBoth(x, models, first, second, told);
     }
 
     /** Claims with 8 conditions and 6 parts, the first one having a model with this meaning. */
@@ -105,36 +61,34 @@ public final class ModelTest {
             int b = pick(6);
             boolean hasCells = meaning[a] != meaning[b];
             if (!hasCells) {
-                first.add(new Said(LIST, a, b));
-            } else if (meaning[a] != NIL && !started[meaning[a]]) {
+                first.add(new Said(Said.LIST, a, b));
+            } else if (meaning[a] != Models.NIL && !started[meaning[a]]) {
                 started[meaning[a]] = true;
-                first.add(new Said(pick(3) == 0 ? CELL : LIST, a, b));
+                first.add(new Said(pick(3) == 0 ? Said.CELL : Said.LIST, a, b));
             }
         }
         while (first.size() < 6 + 8) {
             int a = pick(6);
             int b = pick(6);
-            first.add(new Said(meaning[a] == meaning[b] ? SAME : OTHER, a, b));
+            first.add(new Said(meaning[a] == meaning[b] ? Said.SAME : Said.OTHER, a, b));
         }
         List<Said> second = new ArrayList<>(first);
         for (int i = 0; i < changes; i++) {
             change(second, 5);
         }
-        ListHeaps x = new ListHeaps();
-        say(x, 0, first);
-        say(x, 1, second);
+        ListHeaps x = Models.with(first, second);
         String told = first + " / " + second;
-        List<Model> models = models(first, 7);
+        List<Models.Model> models = Models.models(first, 7);
         Due.is("made to have a model " + told, models.isEmpty(), false);
-        tryOne(x, first, models, told);
-        tryBoth(x, models, first, second, told);
+        Models.tryOne(x, first, models, told);
+        Models.tryBoth(x, models, first, second, told);
     }
 
     private static void change(List<Said> claim, int names) {
-        int parts = countParts(claim);
+        int parts = Models.countParts(claim);
         int way = pick(6);
         if (way == 0 && parts < 4) {
-            claim.add(new Said(pick(2) == 0 ? CELL : LIST, pickTerm(names), pickTerm(names)));
+            claim.add(new Said(pick(2) == 0 ? Said.CELL : Said.LIST, pickTerm(names), pickTerm(names)));
         } else if (way == 1) {
             claim.add(new Said(pick(2), pickTerm(names), pickTerm(names)));
         } else if (way == 2 && !claim.isEmpty()) {
@@ -144,7 +98,7 @@ public final class ModelTest {
         } else {
             joinLists(claim);
         }
-        while (claim.size() - countParts(claim) > 8) {
+        while (claim.size() - Models.countParts(claim) > 8) {
             claim.remove(claim.size() - 1);
         }
     }
@@ -152,8 +106,8 @@ public final class ModelTest {
     private static void cellsToLists(List<Said> claim) {
         for (int i = 0; i < claim.size(); i++) {
             Said said = claim.get(i);
-            if (said.kind() == CELL) {
-                claim.set(i, new Said(LIST, said.a(), said.b()));
+            if (said.kind() == Said.CELL) {
+                claim.set(i, new Said(Said.LIST, said.a(), said.b()));
             }
         }
     }
@@ -164,239 +118,10 @@ public final class ModelTest {
                 if (one != two && one.isPart() && two.isPart() && one.b() == two.a()) {
                     claim.remove(one);
                     claim.remove(two);
-                    claim.add(new Said(LIST, one.a(), two.b()));
+                    claim.add(new Said(Said.LIST, one.a(), two.b()));
                     return;
                 }
             }
         }
-    }
-
-    private static int countParts(List<Said> claim) {
-        int parts = 0;
-        for (Said said : claim) {
-            parts += said.isPart() ? 1 : 0;
-        }
-        return parts;
-    }
-
-    private static void say(ListHeaps x, int s, List<Said> claim) {
-        for (Said said : claim) {
-            switch (said.kind()) {
-                case SAME -> x.same(s, said.a(), said.b());
-                case OTHER -> x.other(s, said.a(), said.b());
-                case CELL -> x.cell(s, said.a(), said.b());
-                default -> x.list(s, said.a(), said.b());
-            }
-        }
-    }
-
-    private static void tryOne(ListHeaps x, List<Said> claim, List<Model> models, String told) {
-        Due.is("possible " + told, x.possible(0), !models.isEmpty());
-        int divisions = 0;
-        int least = ListHeaps.NONE;
-        int most = ListHeaps.NONE;
-        int[] last = null;
-        for (Model model : models) {
-            divisions += last == model.meaning() ? 0 : 1;
-            last = model.meaning();
-            least = least == ListHeaps.NONE ? model.cells() : Math.min(least, model.cells());
-            most = Math.max(most, model.cells());
-        }
-        // More cells than parts: some list has two or more, and could have any number.
-        boolean everMore = most > countParts(claim);
-        Due.is("divisions " + told, x.divisions(0), divisions);
-        Due.is("least " + told, x.least(0), least);
-        Due.is("most " + told, x.most(0), everMore ? ListHeaps.NONE : most);
-        for (int a = 0; a < 6; a++) {
-            tryHeld(x, models, a, told);
-            for (int b = 0; b < 6; b++) {
-                tryTwo(x, models, a, b, told);
-            }
-        }
-    }
-
-    private static void tryHeld(ListHeaps x, List<Model> models, int a, String told) {
-        boolean held = true;
-        for (Model model : models) {
-            held &= model.heap()[model.meaning()[a]] != NO_CELL;
-        }
-        Due.is("held " + a + " " + told, x.held(0, a), held);
-        asked[3][held ? 1 : 0]++;
-    }
-
-    private static void tryTwo(ListHeaps x, List<Model> models, int a, int b, String told) {
-        boolean always = true;
-        boolean never = true;
-        boolean reaches = true;
-        for (Model model : models) {
-            int from = model.meaning()[a];
-            int to = model.meaning()[b];
-            always &= from == to;
-            never &= from != to;
-            reaches &= model.reaches(from, to);
-        }
-        String with = " " + a + " " + b + " " + told;
-        Due.is("alwaysSame" + with, x.alwaysSame(0, a, b), always);
-        Due.is("neverSame" + with, x.neverSame(0, a, b), never);
-        Due.is("reaches" + with, x.reaches(0, a, b), reaches);
-        asked[4][reaches ? 1 : 0]++;
-    }
-
-    private static void tryBoth(ListHeaps x, List<Model> models, List<Said> first, List<Said> second,
-            String told) {
-        boolean follows = true;
-        boolean contains = true;
-        for (Model model : models) {
-            follows = follows && isModel(model, second, false);
-            contains = contains && isModel(model, second, true);
-        }
-        List<Said> both = new ArrayList<>(first);
-        both.addAll(second);
-        // Each part with cells starts at a place of its own, and at most five places have names.
-        boolean together = !models(both, 5).isEmpty();
-        Due.is("follows " + told, x.follows(), follows);
-        Due.is("contains " + told, x.contains(), contains);
-        Due.is("together " + told, x.together(), together);
-        // A claim without models shows nothing, as all is so in all of them.
-        if (!models.isEmpty()) {
-            asked[0][follows ? 1 : 0]++;
-            asked[1][contains ? 1 : 0]++;
-            asked[2][together ? 1 : 0]++;
-        }
-    }
-
-    /** One meaning for each division, with the places numbered as they come. */
-    private static List<int[]> meanings() {
-        List<int[]> found = new ArrayList<>();
-        addMeanings(new int[6], 0, NIL, found);
-        return found;
-    }
-
-    private static void addMeanings(int[] meaning, int name, int lastPlace, List<int[]> found) {
-        if (name == 5) {
-            found.add(meaning.clone());
-            return;
-        }
-        for (int value = NIL; value <= lastPlace + 1; value++) {
-            meaning[name] = value;
-            addMeanings(meaning, name + 1, Math.max(lastPlace, value), found);
-        }
-        meaning[name] = NIL;
-    }
-
-    private static boolean conditionsHold(int[] meaning, List<Said> claim) {
-        for (Said said : claim) {
-            boolean equal = meaning[said.a()] == meaning[said.b()];
-            if (said.kind() == SAME && !equal || said.kind() == OTHER && equal) {
-                return false;
-            }
-        }
-        return true;
-    }
-
-    private static List<Said> parts(List<Said> claim) {
-        List<Said> parts = new ArrayList<>();
-        for (Said said : claim) {
-            if (said.isPart()) {
-                parts.add(said);
-            }
-        }
-        return parts;
-    }
-
-    private static List<Model> models(List<Said> claim, int mostCells) {
-        List<Model> found = new ArrayList<>();
-        List<Said> parts = parts(claim);
-        for (int[] meaning : meanings()) {
-            if (conditionsHold(meaning, claim)) {
-                int lastPlace = NIL;
-                for (int value : meaning) {
-                    lastPlace = Math.max(lastPlace, value);
-                }
-                int[] heap = new int[PLACES];
-                Arrays.fill(heap, NO_CELL);
-                Building building = new Building(meaning, parts, heap, found);
-                building.addPart(0, lastPlace, mostCells);
-            }
-        }
-        return found;
-    }
-
-    /** Builds every heap for one meaning by the words for cells and lists. */
-    private record Building(int[] meaning, List<Said> parts, int[] heap, List<Model> found) {
-        void addPart(int part, int lastPlace, int cellsLeft) {
-            if (part == parts.size()) {
-                found.add(new Model(meaning, heap.clone()));
-                return;
-            }
-            Said said = parts.get(part);
-            int from = meaning[said.a()];
-            int to = meaning[said.b()];
-            if (said.kind() == LIST) {
-                addList(part, from, to, lastPlace, cellsLeft);
-            } else if (from != NIL && heap[from] == NO_CELL && cellsLeft > 0) {
-                heap[from] = to;
-                addPart(part + 1, lastPlace, cellsLeft - 1);
-                heap[from] = NO_CELL;
-            }
-        }
-
-        void addList(int part, int from, int to, int lastPlace, int cellsLeft) {
-            if (from == to) {
-                addPart(part + 1, lastPlace, cellsLeft);
-                return;
-            }
-            if (from == NIL || heap[from] != NO_CELL || cellsLeft == 0) {
-                return;
-            }
-            for (int value = NIL; value <= lastPlace + 1; value++) {
-                heap[from] = value;
-                addList(part, value, to, Math.max(lastPlace, value), cellsLeft - 1);
-            }
-            heap[from] = NO_CELL;
-        }
-    }
-
-    private static boolean isModel(Model model, List<Said> claim, boolean withMore) {
-        int all = 0;
-        for (int place = 1; place < PLACES; place++) {
-            all |= model.heap()[place] == NO_CELL ? 0 : 1 << place;
-        }
-        return conditionsHold(model.meaning(), claim)
-            && canDivide(model, parts(claim), 0, all, withMore);
-    }
-
-    private static boolean canDivide(Model model, List<Said> parts, int part, int left, boolean withMore) {
-        if (part == parts.size()) {
-            return withMore || left == 0;
-        }
-        int piece = left;
-        while (true) {
-            if (isSo(model, parts.get(part), piece)
-                    && canDivide(model, parts, part + 1, left & ~piece, withMore)) {
-                return true;
-            }
-            if (piece == 0) {
-                return false;
-            }
-            piece = piece - 1 & left;
-        }
-    }
-
-    private static boolean isSo(Model model, Said part, int piece) {
-        int from = model.meaning()[part.a()];
-        int to = model.meaning()[part.b()];
-        if (part.kind() == LIST) {
-            return isList(model, from, to, piece);
-        }
-        return from != NIL && piece == 1 << from && model.heap()[from] == to;
-    }
-
-    private static boolean isList(Model model, int from, int to, int piece) {
-        if (from == to) {
-            return piece == 0;
-        }
-        return from != NIL && (piece & 1 << from) != 0
-            && isList(model, model.heap()[from], to, piece & ~(1 << from));
     }
 }
